@@ -577,6 +577,12 @@ public final class PromisesTest {
     a = ideal(3, 0, "x^8*z^7", "x^2*z^8+1");
     due("basis", a.basis(20000), 1);
     due("cofactors and element fit, but not a product on the way", a.check(), -7);
+    a = ideal(1, 0, "-22*x^4-21", "14*x^4-22*x^2-12*x");
+    due("basis", a.basis(20000), 1);
+    due("FULL when the cofactor's terms are the u", a.check(), -7);
+    a = ideal(1, 0, "-23*x^4-18*x^2+5*x", "18*x^4+5");
+    due("basis", a.basis(20000), 1);
+    due("FULL only if the generator's terms were the u", a.check(), 1);
   }
 
   private static void radicals() {
