@@ -1,50 +1,7 @@
 /** Each promise of the document: ordinary inputs, the edges that it names, and wrong inputs. */
-public final class PromisesTest {
-  private static int wrong = 0;
-  private static int promise = 0;
-
-  private static void due(String call, int got, int want) {
-    if (got != want) tell(call, "" + got, "" + want);
-  }
-
-  private static void due(String call, String got, String want) {
-    if (!got.equals(want)) tell(call, got, want);
-  }
-
-  private static void tell(String call, String got, String want) {
-    wrong++;
-    System.out.println("promise " + promise + ": " + call + " answered " + got + ", due is " + want);
-  }
-
-  private static IdealProver ideal(int variables, int kind, String... generators) {
-    IdealProver a = new IdealProver(variables);
-    a.order(kind);
-    for (String g : generators) {
-      Words.put(a, 39, g);
-      a.generator(39);
-    }
-    a.zero(39);
-    return a;
-  }
-
-  private static String elements(IdealProver a) {
-    StringBuilder b = new StringBuilder();
-    for (int i = 0; a.element(i, 38) >= 0; i++) b.append(i == 0 ? "" : " ").append(Words.get(a, 38));
-    return b.toString();
-  }
-
-  private static String dones(IdealProver a) {
-    return a.done(0) + " " + a.done(1) + " " + a.done(2) + " " + a.done(3);
-  }
-
-  /** A sum of x^i y^j, 0 <= i < wide, 0 <= j < high. */
-  private static void grid(IdealProver a, int place, int wide, int high) {
-    a.zero(place);
-    for (int i = 0; i < wide; i++) for (int j = 0; j < high; j++) a.term(place, 1, 1, i | j << 8);
-  }
-
+public final class PromisesTest extends Trial {
   private static void newObject() {
-    promise = 1;
+    says("promise 1");
     int[][] cases = {{1, 1}, {4, 4}, {0, 1}, {-5, 1}, {5, 4}, {Integer.MIN_VALUE, 1}, {Integer.MAX_VALUE, 4}, {3, 3}};
     for (int[] c : cases) due("variables of " + c[0], new IdealProver(c[0]).variables(), c[1]);
     IdealProver a = new IdealProver(3);
@@ -57,7 +14,7 @@ public final class PromisesTest {
   }
 
   private static void numberOfVariables() {
-    promise = 2;
+    says("promise 2");
     IdealProver a = ideal(2, 0, "x-y");
     a.basis(100);
     a.radical(0, 10);
@@ -65,7 +22,7 @@ public final class PromisesTest {
   }
 
   private static void orders() {
-    promise = 3;
+    says("promise 3");
     IdealProver a = new IdealProver(4);
     due("order(1)", a.order(1), 0);
     due("order(2)", a.order(2), 1);
@@ -103,7 +60,7 @@ public final class PromisesTest {
   }
 
   private static void terms() {
-    promise = 4;
+    says("promise 4");
     IdealProver a = new IdealProver(2);
     due("first", a.term(0, 2, 4, 1), 1);
     due("lowest terms", Words.get(a, 0), "1/2*x");
@@ -152,13 +109,13 @@ public final class PromisesTest {
   }
 
   private static void zeroAndSize() {
-    promise = 5;
+    says("promise 5");
     IdealProver a = new IdealProver(2);
     Words.put(a, 39, "x+y+1");
     due("zero", a.zero(39), 3);
     due("zero", a.zero(39), 0);
     for (int p : new int[] {-1, 40, Integer.MIN_VALUE, Integer.MAX_VALUE}) due("zero(" + p + ")", a.zero(p), -1);
-    promise = 6;
+    says("promise 6");
     Words.put(a, 0, "x+y+1");
     due("size", a.size(0), 3);
     due("size", a.size(39), 0);
@@ -166,7 +123,7 @@ public final class PromisesTest {
   }
 
   private static void telling() {
-    promise = 7;
+    says("promise 7");
     IdealProver a = new IdealProver(4);
     a.term(7, -6, 4, 1 | 2 << 8 | 3 << 16 | 30 << 24);
     a.term(7, 5, 1, 2);
@@ -185,7 +142,7 @@ public final class PromisesTest {
   }
 
   private static void sums() {
-    promise = 8;
+    says("promise 8");
     IdealProver a = new IdealProver(2);
     Words.put(a, 0, "x^2+1/2*x-1");
     Words.put(a, 1, "y-1/2*x+1/3");
@@ -224,7 +181,7 @@ public final class PromisesTest {
   }
 
   private static void products() {
-    promise = 9;
+    says("promise 9");
     IdealProver a = new IdealProver(3);
     Words.put(a, 0, "x+1/2*y");
     Words.put(a, 1, "x-1/2*y");
@@ -267,7 +224,7 @@ public final class PromisesTest {
   }
 
   private static void sameness() {
-    promise = 10;
+    says("promise 10");
     IdealProver a = new IdealProver(2);
     Words.put(a, 0, "x+1/2");
     Words.put(a, 1, "1/2+x");
@@ -285,7 +242,7 @@ public final class PromisesTest {
   }
 
   private static void points() {
-    promise = 11;
+    says("promise 11");
     IdealProver a = new IdealProver(3);
     Words.put(a, 0, "x^2+y^2-z^2");
     due("point", a.vanishes(0, 3, -4, 5, 5000), 1);
@@ -317,7 +274,7 @@ public final class PromisesTest {
   }
 
   private static void generators() {
-    promise = 12;
+    says("promise 12");
     IdealProver a = new IdealProver(2);
     Words.put(a, 0, "x-1");
     due("no place", a.generator(40), -1);
@@ -336,7 +293,7 @@ public final class PromisesTest {
     due("a ninth of no place", a.generator(40), -1);
     due("the basis stays", a.free(0), 2);
     due("of generator 7", a.share(0, 7, 5), 0);
-    promise = 13;
+    says("promise 13");
     due("clear", a.clear(), 8);
     due("the basis is no more", a.free(0), -3);
     due("clear", a.clear(), 0);
@@ -345,7 +302,7 @@ public final class PromisesTest {
   }
 
   private static void bases() {
-    promise = 14;
+    says("promise 14");
     IdealProver a = ideal(2, 0, "x^2+y^2-1", "x-y");
     due("steps", a.basis(-1), -2);
     due("steps", a.basis(20001), -2);
@@ -394,7 +351,7 @@ public final class PromisesTest {
   }
 
   private static void deeds() {
-    promise = 15;
+    says("promise 15");
     IdealProver a = ideal(2, 0, "x^2+y^2-1", "x-y");
     due("before", dones(a), "0 0 0 0");
     a.basis(20001);
@@ -426,7 +383,7 @@ public final class PromisesTest {
   }
 
   private static void elementsAndShares() {
-    promise = 16;
+    says("promise 16");
     IdealProver a = ideal(2, 0, "x^2+y^2-1", "x-y");
     due("no basis", a.element(0, 99), -3);
     due("no basis", a.share(0, 0, 99), -3);
@@ -440,7 +397,7 @@ public final class PromisesTest {
     a.zero(39);
     a.element(0, 39);
     due("the element is not the place's", Words.get(a, 39), "y^2-1/2");
-    promise = 17;
+    says("promise 17");
     due("share", a.share(0, 0, 0), 1);
     due("share", Words.get(a, 0), "1/2");
     due("share", a.share(0, 1, 0), 2);
@@ -456,7 +413,7 @@ public final class PromisesTest {
   }
 
   private static void divisions() {
-    promise = 18;
+    says("promise 18");
     IdealProver a = ideal(2, 0, "x^2+y^2-1", "x-y");
     Words.put(a, 0, "x^3+x*y+1");
     due("no place", a.divide(40, 0), -1);
@@ -488,7 +445,7 @@ public final class PromisesTest {
   }
 
   private static void certificates() {
-    promise = 19;
+    says("promise 19");
     IdealProver a = ideal(2, 0, "x^2+y^2-1", "x-y");
     due("no basis", a.certificate(9, 99), -3);
     a.basis(1000);
@@ -565,7 +522,7 @@ public final class PromisesTest {
   }
 
   private static void checks() {
-    promise = 20;
+    says("promise 20");
     IdealProver a = ideal(2, 0, "x^2+y^2-1", "x-y");
     due("no basis", a.check(), -3);
     a.basis(1000);
@@ -586,7 +543,7 @@ public final class PromisesTest {
   }
 
   private static void radicals() {
-    promise = 21;
+    says("promise 21");
     IdealProver a = ideal(2, 0, "x^3", "y^2-x");
     Words.put(a, 0, "y");
     Words.put(a, 1, "y-1");
@@ -634,7 +591,7 @@ public final class PromisesTest {
   }
 
   private static void freeOnes() {
-    promise = 22;
+    says("promise 22");
     IdealProver a = ideal(3, 0, "x^2+y+z-1", "x+y^2+z-1", "x+y+z^2-1");
     due("no basis, k wrong", a.free(4), -2);
     due("k", a.free(-1), -2);
@@ -655,7 +612,7 @@ public final class PromisesTest {
   }
 
   private static void staircases() {
-    promise = 23;
+    says("promise 23");
     IdealProver a = ideal(3, 0, "x^2+y+z-1", "x+y^2+z-1", "x+y+z^2-1");
     due("no basis", a.stairs(), -3);
     a.basis(20000);
@@ -710,7 +667,6 @@ public final class PromisesTest {
     radicals();
     freeOnes();
     staircases();
-    System.out.println(wrong == 0 ? "all answers are as due" : wrong + " answers are not as due");
-    if (wrong != 0) System.exit(1);
+    end();
   }
 }

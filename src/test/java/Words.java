@@ -32,7 +32,8 @@ final class Words {
 
   static String get(IdealProver a, int place) {
     StringBuilder b = new StringBuilder();
-    for (int i = 0; i < a.size(place); i++) {
+    int count = a.size(place);
+    for (int i = 0; i < count; i++) {
       int over = a.told(place, i, 0);
       int under = a.told(place, i, 1);
       int powers = a.told(place, i, 2);
